@@ -178,7 +178,8 @@ public final class StreamAssembler {
         return limit < LONGEST_STREAM ? limit : LONGEST_STREAM;
     }
 
-    // Both limits in one number: what is left is never below 0, so no offset up to the highest breaks the shared one.
+    // One number stands for both limits: what is left is never below 0, so a piece
+    // that does not raise the highest never breaks the shared limit.
     private int flowBound(int stream) {
         int own = limit(stream);
         int shared = highests[stream] + left();
