@@ -15,6 +15,7 @@ public final class FaceTest {
         "public int gap(int,int)", "public int allowed(int)", "public int complete(int)");
 
     public static void main(String[] args) {
+        Due.sentence("The public face");
         Class<StreamAssembler> type = StreamAssembler.class;
         Set<String> seen = new TreeSet<>();
         for (Field field : type.getDeclaredFields()) {
