@@ -1,7 +1,8 @@
 /** Every piece, end and question on a grid around all boundaries, in every state, compared with the model. */
 public final class GridTest {
     private static final int[] FAR = {
-        Integer.MIN_VALUE, Integer.MIN_VALUE + 3, 998, 999, 1000, 1001, 1002, 1 << 30, Integer.MAX_VALUE - 3, Integer.MAX_VALUE};
+        Integer.MIN_VALUE, Integer.MIN_VALUE + 3, 998, 999, 1000, 1001, 1002, 1 << 30,
+        Integer.MAX_VALUE - 3, Integer.MAX_VALUE};
 
     public static void main(String[] args) {
         for (State state : State.values()) {

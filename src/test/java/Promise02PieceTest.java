@@ -233,7 +233,7 @@ public final class Promise02PieceTest {
     }
 
     private static void everyNewByteBecomesKnown() {
-        Due.sentence("every byte of the piece that is not known yet becomes known; answers how many");
+        Due.sentence("every byte of the piece that is not known yet (and how many have become known)");
         // Each bit of the pattern is a byte around the piece, known beforehand or not.
         for (int pattern = 0; pattern < 64; pattern++) {
             for (int length = 1; length <= 4; length++) {

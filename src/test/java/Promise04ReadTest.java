@@ -136,7 +136,7 @@ public final class Promise04ReadTest {
     }
 
     private static void refusedReadsStay() {
-        Due.sentence("the read point goes on by 1 (and not by a refused read)");
+        Due.sentence("Reads the byte at the read point, which goes on by 1 (and not by a refused read)");
         StreamAssembler x = new StreamAssembler();
         Due.fill(x, 1, 1, 2);
         String before = Due.look(x);

@@ -32,7 +32,7 @@ public final class Promise07GapsTest {
     }
 
     private static void longestRows() {
-        Due.sentence("longest rows of offsets whose bytes are not known");
+        Due.sentence("longest rows of offsets");
         for (int length = 0; length <= 22; length++) {
             StreamAssembler x = new StreamAssembler();
             Due.fill(x, 1, 0, 1);

@@ -107,7 +107,7 @@ public final class Promise09AllowedTest {
     }
 
     private static void theLimit() {
-        Due.sentence("if the end is not known: the lesser of the limit of the stream (read point plus 24)");
+        Due.sentence("if the end of the stream is not known: the lesser of the limit of the stream (read point plus 24)");
         for (int s = 0; s < 4; s++) {
             StreamAssembler x = new StreamAssembler();
             Due.due("new", x.allowed(s), 24);

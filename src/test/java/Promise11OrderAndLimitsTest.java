@@ -1,4 +1,7 @@
-/** Promise 11: BAD for a wrong stream and for nothing else, and read bytes stay known; its words on allowed are with promise 9. */
+/**
+ * Promise 11: BAD for a wrong stream and for nothing else, and read bytes stay known; most of its words
+ * on allowed are tested with promise 9.
+ */
 public final class Promise11OrderAndLimitsTest {
     private static final int BAD = StreamAssembler.BAD;
     private static final int NOTHING = StreamAssembler.NOTHING;
@@ -87,7 +90,7 @@ public final class Promise11OrderAndLimitsTest {
     }
 
     private static void allowedIsTheLesser() {
-        Due.sentence("allowed: the lesser of the limit of the stream and of its highest plus what is left");
+        Due.sentence("the lesser of the limit of the stream and of its highest plus what is left (in every state)");
         for (State state : State.values()) {
             StreamAssembler x = state.make();
             Model model = state.model();

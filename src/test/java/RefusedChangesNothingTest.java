@@ -233,20 +233,27 @@ public final class RefusedChangesNothingTest {
         refused(State.ENDS, Call.gap(1, 0), NOTHING);
     }
 
-    /** Asks twice for the call that is refused, and then goes on in each of the ways that tell a change. */
+    /** Asks once, and on another object twice, as a second change could undo the first. */
     private static void refused(State state, Call call, int answer) {
         for (List<Call> after : waysOn(state)) {
-            StreamAssembler touched = state.make();
-            StreamAssembler twin = state.make();
-            String in = " in the state " + state;
-            Due.due(call + in, call.on(touched), answer);
-            Due.due(call + in + ", once more", call.on(touched), answer);
-            for (Call next : after) {
-                Due.due(next + " after " + call + in, next.on(touched), next.on(twin));
-            }
+            asIfNotMade(state, call, answer, 1, after);
+            asIfNotMade(state, call, answer, 2, after);
         }
     }
 
+    private static void asIfNotMade(State state, Call call, int answer, int times, List<Call> after) {
+        StreamAssembler touched = state.make();
+        StreamAssembler twin = state.make();
+        String in = " in the state " + state;
+        for (int k = 0; k < times; k++) {
+            Due.due(call + in, call.on(touched), answer);
+        }
+        for (Call next : after) {
+            Due.due(next + " after " + call + in, next.on(touched), next.on(twin));
+        }
+    }
+
+    /** Calls that tell a change: all questions and reads, and the pieces and the ends around each highest. */
     private static List<List<Call>> waysOn(State state) {
         Model model = state.model();
         List<List<Call>> ways = new ArrayList<>();
