@@ -162,6 +162,7 @@ public final class StreamAssembler {
     private int learn(int stream, int offset, int length, int bytes) {
         int learned = 0;
         for (int k = 0; k < length; k++) {
+            // The flow check in piece has kept offset + length at or below LONGEST_STREAM.
             int cell = stream * LONGEST_STREAM + offset + k;
             // Bytes that have been read stay known, so they need no test of their own.
             if (!known[cell]) {

@@ -18,7 +18,9 @@ public final class ModelTest {
             // Runs of different greed: some read all they can, some let the limits fill up, some finish early.
             int readShare = 10 + 15 * (run % 5);
             int finishShare = run % 7 == 0 ? 10 : 1;
-            for (int call = 0; call < CALLS; call++) {
+            // Every second run begins late in a stream, because few runs would come to its greatest length.
+            int begun = run % 2 == 0 ? 0 : test.readTo(run / 2 % 4, 192 + run % 49, "run " + run + ": ");
+            for (int call = begun; call < CALLS; call++) {
                 test.step("run " + run + ", call " + call + ": ", readShare, finishShare);
             }
         }
@@ -29,6 +31,23 @@ public final class ModelTest {
     private int pick(int below) {
         seed = seed * 6364136223846793005L + 1442695040888963407L;
         return (int) ((seed >>> 33) % below);
+    }
+
+    /** Reads a new object's stream up to the offset, and answers how many calls that took. */
+    private int readTo(int stream, int offset, String at) {
+        int calls = 0;
+        for (int from = 0; from < offset; from += 4) {
+            int length = Math.min(4, offset - from);
+            int content = pick(1 << 16) << 16 | pick(1 << 16);
+            String call = at + "piece(" + stream + ", " + from + ", " + length + ", " + content + ")";
+            Due.due(call, x.piece(stream, from, length, content), model.piece(stream, from, length, content));
+            calls++;
+            for (int k = 0; k < length; k++) {
+                Due.due(at + "read(" + stream + ")", x.read(stream), model.read(stream));
+                calls++;
+            }
+        }
+        return calls;
     }
 
     private void step(String at, int readShare, int finishShare) {

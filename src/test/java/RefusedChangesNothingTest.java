@@ -3,7 +3,7 @@ import java.util.List;
 
 /**
  * 'A refused call changes nothing': after each kind of refusal the calls that follow answer as those
- * of a twin that was never asked for the refused call.
+ * of a twin and of the model, neither of which was asked for the refused call.
  */
 public final class RefusedChangesNothingTest {
     private static final int BAD = StreamAssembler.BAD;
@@ -244,12 +244,15 @@ public final class RefusedChangesNothingTest {
     private static void asIfNotMade(State state, Call call, int answer, int times, List<Call> after) {
         StreamAssembler touched = state.make();
         StreamAssembler twin = state.make();
+        Model model = state.model();
         String in = " in the state " + state;
         for (int k = 0; k < times; k++) {
             Due.due(call + in, call.on(touched), answer);
         }
         for (Call next : after) {
-            Due.due(next + " after " + call + in, next.on(touched), next.on(twin));
+            int got = next.on(touched);
+            Due.due(next + " after " + call + in + ", as a twin", got, next.on(twin));
+            Due.due(next + " after " + call + in, got, next.on(model));
         }
     }
 
